@@ -484,7 +484,7 @@ public final class SoundDesk {
         static final int MARKS = 8;
         private static final int ALL_MARKS = 255;
         private static final int ROW_MISSING = -1;
-        private static final int ANY_SOUND = 0;
+        static final int ANY_SOUND = 0;
         private static final int VOWEL = 1;
         private static final int GLIDE = 2;
         private static final int STOP = 3;

@@ -4,7 +4,7 @@ import java.util.Random;
 
 /** Random runs of at most 512 calls, each answer held against that of PlainDesk. */
 public final class RandomRunsTest {
-    private static final int RUNS = 1500;
+    private static final int RUNS = 3000;
     private static final int[] STRANGE = {
         Integer.MIN_VALUE, Integer.MIN_VALUE + 1, -300, -3, -2, -1, 0, 1, 2, 3, 4, 5, 6, 7, 8, 9, 15, 16, 17, 36,
         99, 100, 255, 256, 257, 1 << 16, Integer.MAX_VALUE - 1, Integer.MAX_VALUE
@@ -15,17 +15,21 @@ public final class RandomRunsTest {
     private final PlainDesk plain = new PlainDesk();
     private final StringBuilder calls = new StringBuilder();
     private final int mostSounds;
+    /** Each sound has a mark of its own, and the laws name single sounds: they meet more often. */
+    private final boolean lively;
     private boolean right = true;
 
     private RandomRunsTest(long seed) {
         random = new Random(seed);
-        mostSounds = random.nextInt(12) == 0 ? 8 : 1 + random.nextInt(4);
+        lively = random.nextInt(2) == 0;
+        mostSounds = random.nextInt(12) == 0 ? 8 : 2 + random.nextInt(3);
     }
 
     public static void main(String[] args) {
+        int runs = args.length > 0 ? Integer.parseInt(args[0]) : RUNS;
         int wrong = 0;
-        for (int run = 0; run < RUNS && wrong < 5; run++) {
-            RandomRunsTest test = new RandomRunsTest(20261116L + run);
+        for (int run = 0; run < runs && wrong < 5; run++) {
+            RandomRunsTest test = new RandomRunsTest(20261116L * 7919 * (run + 1));
             test.run();
             if (!test.right) {
                 wrong++;
@@ -47,7 +51,7 @@ public final class RandomRunsTest {
     }
 
     private void buildUp() {
-        int sounds = 1 + random.nextInt(mostSounds);
+        int sounds = random.nextInt(20) == 0 ? random.nextInt(2) : mostSounds - random.nextInt(2);
         for (int i = 0; i < sounds; i++) {
             newSound();
         }
@@ -74,17 +78,17 @@ public final class RandomRunsTest {
     /** Forms of one word, so that roots are there to be found. */
     private void tellForms(int meaning) {
         List<Integer> root = new ArrayList<>();
-        int size = random.nextInt(4);
+        int size = random.nextInt(3) + 1;
         for (int i = 0; i < size; i++) {
             root.add(random.nextInt(Math.max(1, plain.countSounds())));
         }
         for (int tongue = 0; tongue < plain.countTongues(); tongue++) {
-            if (random.nextInt(3) == 0) {
+            if (random.nextInt(4) == 0) {
                 continue;
             }
             sayWord(root);
             int led = call("led", tongue);
-            if (led >= 0 && led <= 8 && random.nextInt(6) != 0) {
+            if (led >= 0 && led <= 8 && random.nextInt(12) != 0) {
                 List<Integer> goal = new ArrayList<>();
                 for (int i = 0; i < led; i++) {
                     goal.add(call("result", i));
@@ -103,34 +107,48 @@ public final class RandomRunsTest {
     }
 
     private void newSound() {
+        if (lively) {
+            int own = 1 << (plain.countSounds() & 7);
+            call("sound", random.nextInt(3), own, 255 & ~own);
+            return;
+        }
         if (random.nextInt(8) == 0) {
             call("sound", random.nextInt(5), -1, -1);
             return;
         }
-        int yes = random.nextInt(256) & random.nextInt(256);
-        int no = random.nextInt(256) & ~yes;
+        int yes = random.nextInt(256);
+        int no = random.nextInt(256) & ~yes | 7 & ~yes;
         call("sound", random.nextInt(5), yes, no);
     }
 
     private void shape(int law) {
         for (int which = 0; which < 3; which++) {
-            if (random.nextInt(3) == 0) {
+            if (random.nextInt(2) == 0) {
                 continue;
             }
             int kind = which > 0 && random.nextInt(3) == 0 ? -1 - random.nextInt(2) : kindOfSet();
-            call("set", law, which, kind, kind < 0 ? 0 : fewMarks(), kind < 0 ? 0 : fewMarks());
+            if (lively && kind >= 0) {
+                call("set", law, which, 0, 1 << (near(plain.countSounds()) & 7), 0);
+            } else {
+                call("set", law, which, kind, fewMarks(kind), fewMarks(kind));
+            }
         }
         if (random.nextInt(4) != 0) {
-            call("becomes", law, random.nextInt(3), near(plain.countSounds()));
+            call("becomes", law, random.nextInt(4) % 3, near(plain.countSounds()));
         }
+    }
+
+    private int marks() {
+        return random.nextInt(3) == 0 ? near(256) : 0;
     }
 
     private int kindOfSet() {
-        return random.nextInt(2) == 0 ? 0 : random.nextInt(5);
+        return random.nextInt(3) != 0 ? 0 : random.nextInt(5);
     }
 
-    private int fewMarks() {
-        return random.nextInt(3) != 0 ? 0 : 1 << random.nextInt(8);
+    /** Marks that some sounds have, so that laws fit many words and not all. */
+    private int fewMarks(int kind) {
+        return kind < 0 || random.nextInt(4) != 0 ? 0 : 1 << random.nextInt(random.nextInt(9) == 0 ? 8 : 3);
     }
 
     /** A number below a count most times, else a strange one. */
@@ -138,7 +156,8 @@ public final class RandomRunsTest {
         if (random.nextInt(25) == 0) {
             return STRANGE[random.nextInt(STRANGE.length)];
         }
-        return random.nextInt(count + (random.nextInt(12) == 0 ? 2 : 0) + (count == 0 ? 1 : 0));
+        int past = random.nextInt(12) == 0 ? 2 : 0;
+        return random.nextInt(Math.max(1, count + past));
     }
 
     private int most(int top) {
@@ -158,7 +177,8 @@ public final class RandomRunsTest {
             case 1: call("mark", near(sounds), near(8)); break;
             case 2: call("as", near(sounds), near(5)); break;
             case 3: call("law", near(4)); break;
-            case 4: case 5: call("set", near(laws), near(3), near(7) - 2, near(256), near(256)); break;
+            case 4: call("set", near(laws), near(3), near(7) - 2, marks(), marks()); break;
+            case 5: call("give", tongue, near(laws)); break;
             case 6: shape(near(laws)); break;
             case 7: call("becomes", near(laws), near(3), near(sounds)); break;
             case 8: call("tongue", near(tongues + 1) - 1); break;
@@ -181,7 +201,7 @@ public final class RandomRunsTest {
             case 32: call("roots", near(meanings), most(4)); readResult(); break;
             case 33: call("some", near(meanings), most(4)); readResult(); break;
             case 34: call("explain", most(4)); break;
-            case 35: call("order", tongue, most(3)); readRow(tongue); break;
+            case 35: mixUp(tongue); call("order", tongue, most(3)); readRow(tongue); break;
             case 36: call("few", tongue, most(3)); readRow(tongue); break;
             case 37: call("cost", near(100)); break;
             case 38: call("match", near(meanings), tongue, near(tongues)); break;
@@ -198,6 +218,13 @@ public final class RandomRunsTest {
         int size = call("result", -1);
         for (int i = 0; i < size; i++) {
             call("result", i);
+        }
+    }
+
+    /** Laws out of the order that the forms were made by, so that order() has something to find. */
+    private void mixUp(int tongue) {
+        for (int i = random.nextInt(4); i > 0; i--) {
+            call("swap", tongue, near(plain.countOwn(tongue) - 1));
         }
     }
 
