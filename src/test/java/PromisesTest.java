@@ -1,24 +1,5 @@
 /** For each promise of the document: ordinary inputs, the edges that it names, and wrong inputs. */
-public final class PromisesTest {
-    private static final int BEYOND = -1, MISSING = -2, FULL = -3, KIND = -4, NONE = -5, LONG = -6;
-    private static final int SOUND = 0, VOWEL = 1, GLIDE = 2, STOP = 3, BREATH = 4;
-    private static final int PLAIN = 0, LEFTWARD = 1, RIGHTWARD = 2, ONCE = 3;
-    private static final int TARGET = 0, LEFT = 1, RIGHT = 2, EDGE = -1, ANY = -2;
-    private static final int BECOMES = 0, DROPPED = 1, FOLLOWED = 2;
-    private static final int LEAST = Integer.MIN_VALUE, GREATEST = Integer.MAX_VALUE;
-
-    private static int promise = 0;
-    private static int asked = 0;
-    private static int wrong = 0;
-
-    private static void due(String what, int want, int got) {
-        asked++;
-        if (got != want) {
-            wrong++;
-            System.out.println("promise " + promise + ": " + what + " answered " + got + ", due is " + want);
-        }
-    }
-
+public final class PromisesTest extends DeskChecks {
     public static void main(String[] args) {
         newObject();
         sound();
@@ -57,87 +38,7 @@ public final class PromisesTest {
         check();
         keepAndAgain();
         told();
-        System.out.println(asked + " calls of promises asked, " + wrong + " wrong");
-        if (wrong != 0) {
-            System.exit(1);
-        }
-    }
-
-    // ---- desks to begin with
-
-    /** So many sounds; sound i alone has mark i as yes, all others as no. */
-    private static SoundDesk sounds(int count) {
-        SoundDesk x = new SoundDesk();
-        for (int i = 0; i < count; i++) {
-            x.sound(SOUND, 1 << i, 255 & ~(1 << i));
-        }
-        return x;
-    }
-
-    /** A new law whose target is one sound. */
-    private static int lawOf(SoundDesk x, int kind, int target) {
-        int law = x.law(kind);
-        x.set(law, TARGET, SOUND, 1 << target, 0);
-        return law;
-    }
-
-    /** A new law by which one sound becomes another one. */
-    private static int turning(SoundDesk x, int from, int to) {
-        int law = lawOf(x, PLAIN, from);
-        x.becomes(law, BECOMES, to);
-        return law;
-    }
-
-    /** A new law by which every sound is followed by a sound. */
-    private static int doubling(SoundDesk x, int sound) {
-        int law = x.law(PLAIN);
-        x.becomes(law, FOLLOWED, sound);
-        return law;
-    }
-
-    /** A new tongue with these own laws. */
-    private static int tongueOf(SoundDesk x, int parent, int... laws) {
-        int tongue = x.tongue(parent);
-        for (int law : laws) {
-            x.give(tongue, law);
-        }
-        return tongue;
-    }
-
-    private static void sayWord(SoundDesk x, String word) {
-        x.hush();
-        for (char c : word.toCharArray()) {
-            x.say(c - '0');
-        }
-    }
-
-    private static void tellForm(SoundDesk x, int meaning, int tongue, String word) {
-        sayWord(x, word);
-        x.form(meaning, tongue);
-    }
-
-    private static void dueResult(SoundDesk x, String what, String word) {
-        StringBuilder got = new StringBuilder();
-        for (int i = 0; i < x.result(-1); i++) {
-            got.append(x.result(i));
-        }
-        asked++;
-        if (!got.toString().equals(word)) {
-            wrong++;
-            System.out.println("promise " + promise + ": the result of " + what + " is '" + got + "', due is '" + word + "'");
-        }
-    }
-
-    private static void dueLed(SoundDesk x, int tongue, String from, String to) {
-        sayWord(x, from);
-        due("led of " + from, to.length(), x.led(tongue));
-        dueResult(x, "led of " + from, to);
-    }
-
-    private static void puts(SoundDesk x, int... numbers) {
-        for (int v : numbers) {
-            x.put(v);
-        }
+        finish("promises");
     }
 
     // ---- the promises

@@ -5,6 +5,8 @@ import java.util.Random;
 /** Random runs of at most 512 calls, each answer held against that of PlainDesk. */
 public final class RandomRunsTest {
     private static final int RUNS = 3000;
+    /** What an object answers behind so many calls is free. */
+    private static final int MOST_CALLS = 512;
     private static final int[] STRANGE = {
         Integer.MIN_VALUE, Integer.MIN_VALUE + 1, -300, -3, -2, -1, 0, 1, 2, 3, 4, 5, 6, 7, 8, 9, 15, 16, 17, 36,
         99, 100, 255, 256, 257, 1 << 16, Integer.MAX_VALUE - 1, Integer.MAX_VALUE
@@ -18,6 +20,7 @@ public final class RandomRunsTest {
     /** Each sound has a mark of its own, and the laws name single sounds: they meet more often. */
     private final boolean lively;
     private boolean right = true;
+    private int made = 0;
 
     private RandomRunsTest(long seed) {
         random = new Random(seed);
@@ -45,7 +48,7 @@ public final class RandomRunsTest {
     private void run() {
         buildUp();
         int more = 40 + random.nextInt(80);
-        for (int i = 0; i < more && right; i++) {
+        for (int i = 0; i < more && right && made < MOST_CALLS; i++) {
             randomCall();
         }
     }
@@ -261,6 +264,10 @@ public final class RandomRunsTest {
 
     private int call(String name, int... a) {
         int due = plain.call(name, a);
+        if (made == MOST_CALLS) {
+            return due;
+        }
+        made++;
         int got = Desks.call(desk, name, a);
         calls.append(name).append(java.util.Arrays.toString(a)).append(" = ").append(got);
         if (got != due) {
