@@ -21,9 +21,9 @@ public final class SoundDesk {
     private static final int LONGEST_ARRANGED = 3;
     private static final int MOST_ARRANGED = 4;
 
-    private final State now = new State();
+    private final Finder finder = new Finder();
+    private final State now = finder.state;
     private final State kept = new State();
-    private final Finder finder = new Finder(now);
     private final int[] waiting = new int[MOST_WAITING];
     private int waitingCount = 0;
     private boolean anythingKept = false;
@@ -50,7 +50,7 @@ public final class SoundDesk {
         if (!now.sounds.has(sound)) {
             return found(BEYOND);
         }
-        if (now.sounds.rowMissing[sound]) {
+        if (now.sounds.isRowMissing(sound)) {
             return found(MISSING);
         }
         if (mark < 0 || mark >= Sounds.MARKS) {
@@ -494,7 +494,8 @@ public final class SoundDesk {
         private static final int NOT_TOLD = 2;
 
         int count = 0;
-        final boolean[] rowMissing = new boolean[MOST];
+        /** Bit s: the row of sound s is missing. */
+        private int missingRows = 0;
         private final int[] kind = new int[MOST];
         private final int[] yes = new int[MOST];
         private final int[] no = new int[MOST];
@@ -516,7 +517,7 @@ public final class SoundDesk {
 
         void copyFrom(Sounds other) {
             count = other.count;
-            System.arraycopy(other.rowMissing, 0, rowMissing, 0, MOST);
+            missingRows = other.missingRows;
             System.arraycopy(other.kind, 0, kind, 0, MOST);
             System.arraycopy(other.yes, 0, yes, 0, MOST);
             System.arraycopy(other.no, 0, no, 0, MOST);
@@ -529,12 +530,18 @@ public final class SoundDesk {
         int add(int newKind, int newYes, int newNo) {
             int number = count;
             boolean missing = newYes == ROW_MISSING;
-            rowMissing[number] = missing;
+            if (missing) {
+                missingRows |= 1 << number;
+            }
             kind[number] = newKind;
             yes[number] = missing ? 0 : newYes;
             no[number] = missing ? 0 : newNo;
             count++;
             return number;
+        }
+
+        boolean isRowMissing(int sound) {
+            return ((missingRows >> sound) & 1) == 1;
         }
 
         int markOf(int sound, int mark) {
@@ -995,9 +1002,9 @@ public final class SoundDesk {
         private static final int MORE = 1;
         private static final int FEWER = 2;
 
+        final State state = new State();
         final Row row = new Row();
         final Path path = new Path();
-        private final State state;
         private final Row otherRow = new Row();
         private final WordSet seen = new WordSet();
         private final long[] goals = new long[Tongues.MOST];
@@ -1005,10 +1012,6 @@ public final class SoundDesk {
         private final int[] seats = new int[MOST_ARRANGED];
         private final int[] bestSeats = new int[MOST_ARRANGED];
         private final int[] costs = new int[MOST_SAID + 1];
-
-        Finder(State state) {
-            this.state = state;
-        }
 
         /** Leads THE WORD by a tongue, and notes each step. */
         long walk(int tongue) {

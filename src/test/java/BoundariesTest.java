@@ -1543,6 +1543,7 @@ public final class BoundariesTest extends DeskChecks {
         due("a new sound is the first", 0, x.sound(0, 0, 0));
         due("again, as new", 1, x.again());
         due("no sounds", 0, x.told(0));
+        keptRows();
         keptFull();
         by(35, "All is as it was kept (which stays): 1. NONE: nothing is kept.");
         SoundDesk y = sounds(1);
@@ -1560,6 +1561,24 @@ public final class BoundariesTest extends DeskChecks {
         y.hush();
         due("the later one stays", 1, y.again());
         due("one sound", 1, y.told(4));
+    }
+
+    /** A missing row is kept as missing, and one that came later is forgotten with its sound. */
+    private static void keptRows() {
+        SoundDesk x = new SoundDesk();
+        x.sound(STOP, -1, -1);
+        x.keep();
+        x.sound(STOP, -1, -1);
+        due("missing", MISSING, x.mark(1, 0));
+        x.again();
+        due("kept as missing", MISSING, x.mark(0, 0));
+        due("another second sound", 1, x.sound(STOP, 1, 2));
+        due("its row is told", 1, x.mark(1, 0));
+        due("its row is told", 0, x.mark(1, 1));
+        due("its row is told", 2, x.mark(1, 2));
+        x.again();
+        due("a third second sound", 1, x.sound(STOP, -1, -1));
+        due("missing again", MISSING, x.mark(1, 0));
     }
 
     private static void keptFull() {

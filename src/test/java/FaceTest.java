@@ -76,6 +76,10 @@ public final class FaceTest {
             for (Field f : c.getDeclaredFields()) {
                 due(!Modifier.isStatic(f.getModifiers()) || Modifier.isFinal(f.getModifiers()), f + " is final");
                 fields += Modifier.isStatic(f.getModifiers()) ? 0 : 1;
+                due(isOfNumbersIfArray(f.getType()), f + " is of numbers: the library copies no other arrays");
+            }
+            for (Constructor<?> made : c.getDeclaredConstructors()) {
+                due(made.getParameterCount() == 0, made + " is handed nothing of an object that is being made");
             }
             due(fields <= 20, c + " has some twenty fields");
             for (Method m : c.getDeclaredMethods()) {
@@ -83,6 +87,15 @@ public final class FaceTest {
                 due(m.getParameterCount() <= 7, m + " takes at most seven");
             }
         }
+    }
+
+    private static boolean isOfNumbersIfArray(Class<?> type) {
+        if (!type.isArray()) {
+            return true;
+        }
+        Class<?> part = type.getComponentType().isArray() ? type.getComponentType().getComponentType()
+                : type.getComponentType();
+        return part == int.class || part == long.class;
     }
 
     private static void source() throws Exception {
